@@ -16,22 +16,12 @@ public final class GamesTest {
         Check.finish();
     }
 
-    /** Looks at won, moves, winning and every winning move, and at NONE beside them. */
     private static void look(int game, HeapGames x, int won, int moves, int... winning) {
-        String at = "heaps " + x.has(0) + " " + x.has(1) + " " + x.has(2) + ": ";
-        Check.due(at + "won(" + game + ")", x.won(game), won);
-        Check.due(at + "moves(" + game + ")", x.moves(game), moves);
-        Check.due(at + "winning(" + game + ")", x.winning(game), winning.length);
-        for (int i = 0; i < winning.length; i++) {
-            Check.due(at + "winningMove(" + game + ", " + i + ")", x.winningMove(game, i), winning[i]);
-        }
-        for (int i : new int[] {winning.length, 1000, Integer.MAX_VALUE, -1, Integer.MIN_VALUE}) {
-            Check.due(at + "winningMove(" + game + ", " + i + ")", x.winningMove(game, i), Check.NONE);
-        }
+        Check.dueGame(game, x, won, moves, winning);
     }
 
     private static int number(int a, int b, int c) {
-        return a + 32 * b + 1024 * c;
+        return Check.number(a, b, c);
     }
 
     private static void nim() {

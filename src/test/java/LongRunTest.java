@@ -13,10 +13,14 @@ public final class LongRunTest {
             RULES[game] = new Rules(game);
         }
         for (int run = 0; run < 200; run++) {
+            // Two objects in turn: neither knows of the other.
             HeapGames x = new HeapGames();
-            int[] heaps = new int[3];
+            HeapGames y = new HeapGames();
+            int[] heapsOfX = new int[3];
+            int[] heapsOfY = new int[3];
             for (int call = 0; call < 512; call++) {
-                step("run " + run + ", call " + call + ": ", x, heaps);
+                step("run " + run + ", call " + call + " of x: ", x, heapsOfX);
+                step("run " + run + ", call " + call + " of y: ", y, heapsOfY);
             }
         }
         Check.finish();
@@ -28,12 +32,21 @@ public final class LongRunTest {
         return low + (int) ((state >>> 33) % (high - low + 1));
     }
 
+    /** Mostly from low to high, at times far outside. */
+    private static int argument(int low, int high) {
+        if (pick(0, 15) > 0) {
+            return pick(low, high);
+        }
+        int[] far = Check.outside(low, high);
+        return far[pick(0, far.length - 1)];
+    }
+
     private static void step(String at, HeapGames x, int[] heaps) {
         int kind = pick(0, 8);
         if (kind <= 1) {
             setHeap(at, x, heaps);
         } else if (kind == 2) {
-            int i = pick(-1, 3);
+            int i = argument(-1, 3);
             Check.due(at + "has(" + i + ")", x.has(i), isHeap(i) ? heaps[i] : Check.BAD_ARG);
         } else if (kind == 3) {
             play(at, x, heaps);
@@ -46,9 +59,13 @@ public final class LongRunTest {
         return i >= 0 && i <= 2;
     }
 
+    private static boolean isGame(int game) {
+        return game >= 0 && game <= 7;
+    }
+
     private static void setHeap(String at, HeapGames x, int[] heaps) {
-        int i = pick(-1, 3);
-        int n = pick(-1, 16);
+        int i = argument(-1, 3);
+        int n = argument(-1, 16);
         boolean fits = isHeap(i) && n >= 0 && n <= 15;
         Check.due(at + "heap(" + i + ", " + n + ")", x.heap(i, n), fits ? heaps[i] : Check.BAD_ARG);
         if (fits) {
@@ -63,10 +80,10 @@ public final class LongRunTest {
     }
 
     private static void play(String at, HeapGames x, int[] heaps) {
-        int game = pick(-1, 8);
-        int i = pick(-1, 2);
+        int game = argument(-1, 8);
+        int i = argument(-1, 2);
         int want = Check.BAD_ARG;
-        if (game >= 0 && game <= 7 && game != 3 && game != 6) {
+        if (isGame(game) && game != 3 && game != 6) {
             want = winningMove(game, i, heaps);
             if (want != Check.NONE) {
                 heaps[0] = want % 32;
@@ -79,21 +96,27 @@ public final class LongRunTest {
     }
 
     private static void ask(String at, HeapGames x, int[] heaps, int kind) {
-        int game = pick(0, 7);
+        int game = argument(0, 7);
+        int i = argument(-1, 3);
+        int due = isGame(game) ? answer(game, i, heaps, kind) : Check.BAD_ARG;
+        switch (kind) {
+            case 4 -> Check.due(at + "won(" + game + ")", x.won(game), due);
+            case 5 -> Check.due(at + "moves(" + game + ")", x.moves(game), due);
+            case 6 -> Check.due(at + "winning(" + game + ")", x.winning(game), due);
+            case 7 -> Check.due(at + "winningMove(" + game + ", " + i + ")", x.winningMove(game, i), due);
+            default -> Check.due(at + "value(" + game + ")", x.value(game), due);
+        }
+    }
+
+    private static int answer(int game, int i, int[] heaps, int kind) {
         Rules rules = RULES[game];
         int[] p = rules.start(heaps[0], heaps[1], heaps[2]);
-        if (kind == 4) {
-            Check.due(at + "won(" + game + ")", x.won(game), rules.won(p) ? 1 : 0);
-        } else if (kind == 5) {
-            Check.due(at + "moves(" + game + ")", x.moves(game), rules.moves(p).size());
-        } else if (kind == 6) {
-            Check.due(at + "winning(" + game + ")", x.winning(game), rules.winning(p).size());
-        } else if (kind == 7) {
-            int i = pick(-1, 3);
-            Check.due(at + "winningMove(" + game + ", " + i + ")", x.winningMove(game, i), winningMove(game, i, heaps));
-        } else {
-            boolean has = game == 0 || game == 7;
-            Check.due(at + "value(" + game + ")", x.value(game), has ? rules.value(p) : Check.BAD_ARG);
-        }
+        return switch (kind) {
+            case 4 -> rules.won(p) ? 1 : 0;
+            case 5 -> rules.moves(p).size();
+            case 6 -> rules.winning(p).size();
+            case 7 -> winningMove(game, i, heaps);
+            default -> game == 0 || game == 7 ? rules.value(p) : Check.BAD_ARG;
+        };
     }
 }
