@@ -4,6 +4,8 @@ public final class CallsBoundaryTest {
         {0, 0, 0}, {1, 0, 0}, {0, 1, 0}, {0, 0, 1}, {1, 1, 1}, {1, 2, 3}, {3, 5, 9}, {12, 3, 15}, {0, 15, 15},
         {15, 15, 15}};
 
+    private static final int FILLERS = 10;
+
     private CallsBoundaryTest() {
     }
 
@@ -20,7 +22,7 @@ public final class CallsBoundaryTest {
 
     private static void theLastCallAnswersAsTheFirst() {
         Check.sentence("What it is", "An object is used for at most 512 calls after it has been made");
-        for (int filler = 0; filler < 6; filler++) {
+        for (int filler = 0; filler < FILLERS; filler++) {
             String at = "call 512 after filler " + filler + ": ";
             Check.due(at + "heap(1, 15)", used(filler).heap(1, 15), 13);
             Check.due(at + "heap(1, 16)", used(filler).heap(1, 16), Check.BAD_ARG);
@@ -58,6 +60,10 @@ public final class CallsBoundaryTest {
             case 2 -> x.winning(call % 8);
             case 3 -> x.play(call % 9, call % 4);
             case 4 -> x.won(call - 254);
+            case 5 -> x.has(call % 5 - 1);
+            case 6 -> x.moves(call % 8);
+            case 7 -> x.winningMove(call % 8, call % 4 - 1);
+            case 8 -> x.value(call % 8);
             default -> {
                 if (call % 2 == 0) {
                     x.heap(call % 3, 15);

@@ -12,13 +12,36 @@ final class Check {
     /** Numbers that are no game: 8 lies just outside. */
     static final int[] NO_GAMES = {Integer.MIN_VALUE, -1024, -4, -1, 8, 9, 16, 1024, Integer.MAX_VALUE};
 
+    private static final int MOST_ROWS = 20;
+    private static final long MOST_MILLISECONDS = 300_000;
+
     private static int looked = 0;
     private static int wrong = 0;
     private static int sentences = 0;
     private static int lookedBefore = 0;
+    private static int wrongBefore = 0;
     private static String sentence = "";
 
+    static {
+        failIfNoEndComes();
+    }
+
     private Check() {
+    }
+
+    /** A call that never ends must fail the test, not hold it up for ever. */
+    private static void failIfNoEndComes() {
+        Thread watch = new Thread(() -> {
+            try {
+                Thread.sleep(MOST_MILLISECONDS);
+            } catch (InterruptedException e) {
+                return;
+            }
+            System.out.println(sentence + "the test did not end in time");
+            Runtime.getRuntime().halt(1);
+        });
+        watch.setDaemon(true);
+        watch.start();
     }
 
     static void due(String call, long got, long want) {
@@ -26,7 +49,7 @@ final class Check {
         if (got != want) {
             wrong++;
             // A broken rule may fail at every position: the first rows tell enough.
-            if (wrong <= 20) {
+            if (wrong - wrongBefore <= MOST_ROWS) {
                 System.out.println(sentence + call + " answered " + got + ", due is " + want);
             }
         }
@@ -45,6 +68,7 @@ final class Check {
             due("answers looked at", 0, 1);
         }
         lookedBefore = looked;
+        wrongBefore = wrong;
     }
 
     /**
@@ -109,7 +133,11 @@ final class Check {
 
     /** Every answer is the one of a new object with these heaps: nothing else has changed. */
     static void dueAsNew(String after, HeapGames x, int a, int b, int c) {
+        int before = wrong;
         dueHeaps(after, x, a, b, c);
+        if (wrong > before) {
+            return;
+        }
         HeapGames fresh = with(a, b, c);
         for (int game = 0; game < 8; game++) {
             String call = after + ", game " + game + ": ";
