@@ -82,8 +82,8 @@ public final class CallsBoundaryTest {
             for (int first : any) {
                 for (int second : any) {
                     HeapGames x = Check.with(p[0], p[1], p[2]);
-                    // Past its 512th call an object's answers are free, but it still doesn't throw.
-                    for (int round = 0; round < 60; round++) {
+                    // Three calls are used, and each round has nine: 512 are the most that are promised.
+                    for (int round = 0; round < 56; round++) {
                         callAll(x, first, second);
                     }
                     Check.due("calls without a throw", 1, 1);
